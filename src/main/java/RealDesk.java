@@ -302,9 +302,18 @@ public final class RealDesk {
         return ((long) (newE - LEAST_E) << RANK_PLACES) + newM;
     }
 
+    private static long greatInSize(long a, long b) {
+        return Math.abs(a) >= Math.abs(b) ? a : b;
+    }
+
+    /** The one of the two that greatInSize does not answer. */
+    private static long smallInSize(long a, long b) {
+        return Math.abs(a) >= Math.abs(b) ? b : a;
+    }
+
     private static long sum(long a, long b) {
-        long great = Math.abs(a) >= Math.abs(b) ? a : b;
-        long small = Math.abs(a) >= Math.abs(b) ? b : a;
+        long great = greatInSize(a, b);
+        long small = smallInSize(a, b);
         int apart = eOf(great) - eOf(small);
         int up = Math.min(apart, SUM_PLACES);
         // Where lower loses places, great's m is 2^52 at least and went up by 9: enough places stay.
@@ -320,8 +329,8 @@ public final class RealDesk {
      * proof of the fast two-sum), so that rounding takes nothing more away, and neither can be OVER.
      */
     private static long sumError(long a, long b) {
-        long great = Math.abs(a) >= Math.abs(b) ? a : b;
-        long small = Math.abs(a) >= Math.abs(b) ? b : a;
+        long great = greatInSize(a, b);
+        long small = smallInSize(a, b);
         long rounded = sum(great, small);
         if (isOver(rounded)) {
             return rounded;
@@ -374,6 +383,7 @@ public final class RealDesk {
 
     private static long quotient(long a, long b) {
         long by = liftedM(b);
+        // The callers have answered ZERO for this; the division must not rest on them.
         if (by == 0) {
             return RANK_BEYOND;
         }
