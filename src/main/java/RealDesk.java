@@ -3,7 +3,8 @@
  *
  * A number is held as its RANK: 0 for 0, 1 for the least number above 0, 2 for the next one, and so
  * on; a number below 0 has the rank of its size with the other sign. So order, sign, size and
- * neighbours of numbers are those of their ranks, 0 is one number, and a call makes no object.
+ * neighbours of numbers are those of their ranks, 0 is one number, and a call makes no object but
+ * an exception.
  *
  * A rank of 2^53 and more is (e + 1074) * 2^52 + m, m being 2^52 at least; below that it is m itself,
  * e being -1074. An m that is rounded up to 2^53 thereby gives the rank of the next e by itself.
