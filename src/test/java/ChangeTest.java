@@ -147,7 +147,7 @@ public final class ChangeTest {
     private static double dueNumber(int kind, double a) {
         switch (kind) {
             case 0:
-                return a == 0 ? 0.0 : -a;
+                return Desks.otherSign(a);
             case 1:
                 return Math.abs(a);
             case 2:

@@ -28,7 +28,7 @@ final class Desks {
 
     static void unchanged(Due due, String call, RealDesk desk, double[] before) {
         for (int r = 0; r < REGISTERS; r++) {
-            due.same(call + ", then value(" + r + ")", desk.value(r), before[r]);
+            holds(due, call + ", register " + r, desk, r, before[r]);
         }
     }
 
@@ -45,6 +45,11 @@ final class Desks {
         due.same(call + ", then value", desk.value(r), x);
         due.same(call + ", then digits", desk.digits(r), Exact.m(x));
         due.same(call + ", then exponent", desk.exponent(r), Exact.e(x));
+    }
+
+    /** The number with the other sign; 0 has none. */
+    static double otherSign(double x) {
+        return x == 0 ? 0.0 : -x;
     }
 
     static String told(double x) {

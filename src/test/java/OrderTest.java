@@ -16,7 +16,7 @@ public final class OrderTest {
             double a = samples.anyNumber();
             orders(due, a, samples.anyNumber());
             orders(due, a, Math.nextDown(a) + 0.0);
-            orders(due, a, a == 0 ? 0.0 : -a);
+            orders(due, a, Desks.otherSign(a));
         }
         ofZero(due);
         wrong(due);

@@ -1,5 +1,9 @@
 /** Numbers to try: the edges, and a fixed sequence of others that is the same in every run. */
 final class Samples {
+    /** The least number above 0, and the greatest of all. */
+    static final double LEAST = 0x1p-1074;
+    static final double GREATEST = 0x1.fffffffffffffp1023;
+
     private static final double[] SIZES = {
         0.0, 0x1p-1074, 0x1p-1073, 0x1.8p-1073, 0x1.cp-1072,
         0x0.fffffffffffffp-1022, 0x1p-1022, 0x1.0000000000001p-1022, 0x1.fffffffffffffp-1022, 0x1p-1021,
