@@ -25,6 +25,10 @@ final class Due {
         check(call, told(got), told(want));
     }
 
+    void same(String call, String got, String want) {
+        check(call, got, want);
+    }
+
     void isTrue(String what, boolean holds) {
         check(what, Boolean.toString(holds), "true");
     }
@@ -36,6 +40,11 @@ final class Due {
     void number(String call, DoubleSupplier made, double want) {
         check(call, outcome(() -> Double.doubleToRawLongBits(made.getAsDouble())),
             Long.toString(Double.doubleToRawLongBits(want)));
+    }
+
+    /** Both answer the same, or throw the same. */
+    void alike(String call, LongSupplier made, LongSupplier wanted) {
+        check(call, outcome(made), outcome(wanted));
     }
 
     void refused(String call, LongSupplier made) {
